@@ -1,3 +1,5 @@
+import java.util.Random;
+
 /** Promise 7: the law, its faults and what it gives. */
 public final class LawTest {
     private static final Due DUE = new Due("LawTest");
@@ -9,6 +11,7 @@ public final class LawTest {
         values();
         lines();
         names();
+        drawnTexts();
         DUE.end();
     }
 
@@ -207,5 +210,25 @@ public final class LawTest {
         DUE.is("l of another", x.takes(1, 59), 0);
         x.year();
         DUE.is("l in a new year", x.takes(0, 59), 0);
+    }
+
+    /** The program against a second reading of the document, by texts that are drawn. */
+    private static void drawnTexts() {
+        Random random = new Random(7);
+        for (int i = 0; i < 20000; i++) {
+            String text = i % 2 == 0 ? LawTexts.anyText(random) : LawTexts.anyBytes(random);
+            SkinOfTeeth x = new SkinOfTeeth();
+            x.person(random.nextInt(10));
+            x.mend(0, 8, random.nextInt(256));
+            x.say(0, 10);
+            int fault = ModelLaw.fault(text);
+            DUE.is("law " + text, Due.law(x, text), fault < 0 ? 1 : -100 - fault);
+            if (fault < 0) {
+                int fz = random.nextInt(100);
+                int t = fz % 10 % 8;
+                int[] named = {fz % 10, 1, x.of(0, 11), t, x.of(0, 8) >> t & 1, fz / 10};
+                DUE.is("takes by " + text, x.takes(0, fz), Math.max(0, Math.min(99, ModelLaw.value(text, named))));
+            }
+        }
     }
 }
