@@ -13,6 +13,7 @@ public final class DeedTest {
         undo();
         redo();
         fortyChanges();
+        fortyUnlikeChanges();
         undoBehindDeeds();
         DUE.end();
     }
@@ -244,6 +245,44 @@ public final class DeedTest {
         x.undo();
         DUE.is("undo", x.undo(), 38);
         DUE.is("flakes", x.of(0, 11), 3 * Integer.bitCount(44));
+    }
+
+    private static void fortyUnlikeChanges() {
+        SkinOfTeeth x = new SkinOfTeeth();
+        x.person(0);
+        x.person(0);
+        for (int i = 0; i < 16; i++) {
+            x.mend(i / 8, i % 8, 1);
+        }
+        for (int fact = 0; fact < 10; fact++) {
+            x.mend(fact, 9, 1);
+        }
+        x.mend(0, 10, 0);
+        x.mend(1, 8, 3);
+        for (int i = 15; i >= 0; i--) {
+            x.mend(i / 8, i % 8, 2);
+        }
+        DUE.is("forty of forty-four", x.count(3), 40);
+        for (int i = 0; i < 16; i++) {
+            x.undo();
+            DUE.is("flakes", x.of(i / 8, i % 8), 1);
+        }
+        x.undo();
+        DUE.is("caps", x.of(1, 8), 0);
+        DUE.is("gold as yet", x.of(0, 10), 0);
+        x.undo();
+        DUE.is("gold", x.of(0, 10), 3);
+        for (int fact = 9; fact >= 0; fact--) {
+            DUE.is("so as yet", x.of(fact, 9), 1);
+            x.undo();
+            DUE.is("so", x.of(fact, 9), 0);
+        }
+        for (int i = 15; i >= 4; i--) {
+            DUE.is("undo", x.undo(), i - 4);
+            DUE.is("flakes", x.of(i / 8, i % 8), 0);
+        }
+        DUE.is("no more", x.undo(), -5);
+        DUE.is("the four oldest stay", x.of(0, 11), 4);
     }
 
     private static void undoBehindDeeds() {

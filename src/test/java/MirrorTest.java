@@ -8,6 +8,7 @@ public final class MirrorTest {
         two();
         others();
         isSo();
+        isSoOneOfTwo();
         isSoRefusals();
         drawn();
         drawnByHand();
@@ -58,6 +59,8 @@ public final class MirrorTest {
         DUE.is("the 99th", x.liesFor(0, 1, 3), 99);
         Due.law(x, "l=99?99");
         DUE.is("not by 99", x.liesFor(0, 1, 3), -2);
+        Due.law(x, "f?1;99");
+        DUE.is("about fact 0", x.liesFor(0, 1, 3), 1);
         DUE.is("in thought alone", x.of(1, 12), 0);
         DUE.is("in thought alone", x.of(1, 11), 72);
     }
@@ -80,6 +83,10 @@ public final class MirrorTest {
         DUE.is("the first", x.two(0, 0, 1), 9);
         Due.bytes(x, 0, 3, 4, 3, 3, 3, 3, 3, 3);
         DUE.is("never", x.two(0, 0, 0), 0);
+        Due.law(x, "f?1");
+        Due.bytes(x, 0, 3, 3, 3, 3, 3, 3, 3, 3);
+        DUE.is("about fact 0", x.two(0, 0, 0), 100);
+        Due.bytes(x, 0, 3, 4, 3, 3, 3, 3, 3, 3);
         DUE.is("never", x.two(0, 0, 1), -2);
         DUE.is("in thought alone", x.of(0, 12), 0);
     }
@@ -128,6 +135,20 @@ public final class MirrorTest {
         DUE.is("fact 3 stays as it is", x.isSo(1, 13, 0), 0);
         DUE.is("in thought alone", x.of(2, 9), 1);
         DUE.is("in thought alone", x.of(0, 12), 0);
+    }
+
+    private static void isSoOneOfTwo() {
+        SkinOfTeeth x = new SkinOfTeeth();
+        x.person(1);
+        x.person(3);
+        Due.bytes(x, 3, 1, 0, 1, 5, 1, 1, 1, 5, 0, 2, 1, 5);
+        Due.bytes(x, 5, 3, 3, 3, 3, 3, 0, 3, 3);
+        DUE.is("either of two", x.isSo(35, 12, 0), 2);
+        DUE.is("the least", x.isSo(35, 12, 1), 1);
+        DUE.is("none in both", x.isSo(35, 12, 2), 0);
+        DUE.is("and fact 2 whatever", x.isSo(35, 13, 0), 4);
+        DUE.is("fact 1 as it is, a lie: fact 0 is none", x.isSo(35, 11, 0), 1);
+        DUE.is("fact 0 is so", x.isSo(35, 11, 2), 1);
     }
 
     private static void isSoRefusals() {

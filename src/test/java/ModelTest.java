@@ -60,6 +60,9 @@ public final class ModelTest {
         if (kind == 1) {
             return rowFilled(random.nextInt(6));
         }
+        if (kind == 2 && random.nextInt(3) == 0) {
+            return triedInAMirror();
+        }
         if (kind < 5) {
             mended();
         } else if (kind < 13) {
@@ -101,6 +104,35 @@ public final class ModelTest {
             due.is("put", x.put(shelf, i, v), m.put(shelf, i, v));
         }
         return n + 1;
+    }
+
+    /** A mirror shows a mouth as it is behind a trial, or behind lies of one or two sizes. */
+    private int triedInAMirror() {
+        int trial = random.nextInt(6);
+        int mirror = random.nextInt(6);
+        int one = one();
+        int before = rowFilled(trial);
+        int[] seen = new int[8];
+        for (int t = 0; t < 8; t++) {
+            seen[t] = m.tooth(trial, 10 * one + t);
+            due.is("tooth", x.tooth(trial, 10 * one + t), seen[t]);
+        }
+        due.is("row", x.row(mirror, 0, 8), m.row(mirror, 0, 8));
+        for (int t = 0; t < 8; t++) {
+            due.is("put", x.put(mirror, t, seen[t]), m.put(mirror, t, seen[t]));
+        }
+        int on = 10 * one + 1 + random.nextInt(4);
+        for (int what = 0; what < 3; what++) {
+            int tm = 10 * trial + mirror;
+            due.is("isSo " + tm + " " + on + " " + what, x.isSo(tm, on, what), m.isSo(tm, on, what));
+        }
+        for (int what = 0; what < 2; what++) {
+            due.is("two", x.two(mirror, one, what), m.two(mirror, one, what));
+        }
+        int size = random.nextInt(10);
+        due.is("liesFor", x.liesFor(mirror, one, size), m.liesFor(mirror, one, size));
+        due.is("others", x.others(mirror), m.others(mirror));
+        return before + 8 + 9 + 3 + 2 + 2;
     }
 
     private void mended() {
