@@ -297,7 +297,6 @@ public final class SkinOfTeeth {
                 }
             }
             hearing.last[one * FACTS + fact] = before;
-            hearing.then.copyFrom(thought);
         }
         return best;
     }
@@ -1169,7 +1168,7 @@ public final class SkinOfTeeth {
         }
 
         boolean lacks(int from, int n) {
-            return from < 0 || n < 0 || from > size || n > size - from;
+            return from < 0 || n < 0 || n > size - from;
         }
 
         static long narrowed(int sort, long v) {

@@ -10,6 +10,7 @@ public final class MirrorEdgesTest {
         promise19HowMany();
         promise19Least();
         promise19EveryTooth();
+        promise19And20WhichOne();
         promise20Arguments();
         promise20NoneAndAll();
         promise20Last();
@@ -19,8 +20,10 @@ public final class MirrorEdgesTest {
         promise22Arguments();
         promise22Refusals();
         promise22WhichShelf();
+        promise22WhichOne();
         promise22AllAndNone();
         promise22OneWay();
+        promise22LeastAndSure();
         promise22Facts();
         promise23Arguments();
         promise23Nobody();
@@ -136,6 +139,29 @@ public final class MirrorEdgesTest {
             DUE.is("19 more than there was", x.liesFor(0, 0, size), -2);
             x.put(0, (size + 7) % 8, -1);
             DUE.is("19 less than there can be", x.liesFor(0, 0, size), -2);
+        }
+    }
+
+    private static void promise19And20WhichOne() {
+        SkinOfTeeth x = court(3, 4, 5, 6, 7, 8, 9);
+        for (int one = 0; one < 7; one++) {
+            int f = one + 3;
+            Due.bytes(x, 0, f - 1, f, f, f, f, f, f, f - 1);
+            x.mend(one, 7, f - 1);
+            for (int asked = 0; asked < 7; asked++) {
+                DUE.is("19 " + asked + " in the mirror of " + one, x.liesFor(0, asked, 0), asked == one ? 1 : -2);
+                DUE.is("20 " + asked + " in the mirror of " + one, x.two(0, asked, 0), 0);
+            }
+            x.mend(one, 7, f);
+            for (int asked = 0; asked < 7; asked++) {
+                DUE.is("20 " + asked + " in the mirror of " + one, x.two(0, asked, 1), -2);
+            }
+            x.put(0, 7, f);
+            x.put(0, 1, f - 1);
+            for (int asked = 0; asked < 7; asked++) {
+                DUE.is("20 " + asked + " in the mirror of " + one, x.two(0, asked, 0), asked == one ? 2 : 0);
+                DUE.is("20 " + asked + " in the mirror of " + one, x.two(0, asked, 1), asked == one ? 1 : -2);
+            }
         }
     }
 
@@ -295,6 +321,19 @@ public final class MirrorEdgesTest {
         DUE.is("22 one shelf for both, whose first may not be", x.isSo(55, 11, 0), 2);
     }
 
+    private static void promise22WhichOne() {
+        SkinOfTeeth x = court(1, 2, 3, 4, 5, 6, 7);
+        x.row(0, 0, 0);
+        for (int one = 0; one < 7; one++) {
+            Due.bytes(x, 1, one + 1, one + 1, one + 1, one + 1, one + 1, one + 1, one + 1, one + 1);
+            for (int n = 1; n <= 8; n++) {
+                DUE.is("22 the mouth of " + one, x.isSo(1, 10 * one + n, 0), 1 << n);
+                DUE.is("22 the mouth of another", x.isSo(1, 10 * ((one + 1) % 7) + n, 0), 0);
+            }
+        }
+        DUE.is("22 beyond the last one", x.isSo(1, 71, 0), -1);
+    }
+
     private static void promise22AllAndNone() {
         SkinOfTeeth x = court(3);
         x.row(0, 0, 0);
@@ -332,6 +371,21 @@ public final class MirrorEdgesTest {
         DUE.is("22 seven of eight so", x.isSo(1, 8, 1), 127);
         DUE.is("22 whatever is so now", x.isSo(1, 8, 0), 1);
         DUE.is("22 it is so, against the trial", x.isSo(1, 7, 0), 0);
+    }
+
+    /** One of two facts is so, and a third one: the least way is not what is sure. */
+    private static void promise22LeastAndSure() {
+        SkinOfTeeth x = court(3);
+        Due.bytes(x, 0, 0, 0, 1, 0, 0, 6, 1, 0, 0, 7, 1, 1);
+        Due.bytes(x, 1, 2, 3, 3, 3, 3, 3, 3, 3);
+        DUE.is("22 either of two", x.isSo(1, 8, 0), 64);
+        DUE.is("22 the least", x.isSo(1, 8, 1), 128 + 1);
+        DUE.is("22 sure in all", x.isSo(1, 8, 2), 128);
+        x.put(0, 11, 8);
+        x.put(0, 10, 0);
+        x.put(1, 0, 2);
+        DUE.is("22 the third not so", x.isSo(1, 8, 1), 1);
+        DUE.is("22 none sure in all, where there are ways", x.isSo(1, 8, 2), 0);
     }
 
     private static void promise22Facts() {
