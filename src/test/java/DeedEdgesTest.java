@@ -141,6 +141,8 @@ public final class DeedEdgesTest {
             DUE.is("24 so: a lie", x.say(0, 100 * fact), 1);
             DUE.is("24 four sayings", x.led(0), 4);
             DUE.is("24 two lies", x.led(1), 2);
+            Due.law(x, "f");
+            DUE.is("24 f of the law", x.say(0, 100 * fact + 4), fact);
         }
     }
 

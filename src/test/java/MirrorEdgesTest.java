@@ -29,6 +29,7 @@ public final class MirrorEdgesTest {
         promise23Nobody();
         promise23Greatest();
         promise23ByHand();
+        promise23TheFactOfTheLaw();
         DUE.end();
     }
 
@@ -476,6 +477,17 @@ public final class MirrorEdgesTest {
                 DUE.is("23 lies of " + people, x.drawn(seed, 360, 0), lies);
                 DUE.is("23 flakes of " + people, x.drawn(seed, 360, 1), flakes);
             }
+        }
+    }
+
+    /** One lie a day of one whom it takes as many flakes as the fact's number. */
+    private static void promise23TheFactOfTheLaw() {
+        for (int seed = -300; seed < 300; seed += 7) {
+            SkinOfTeeth x = court(9);
+            Due.law(x, "f");
+            int z = seed * 1103515245 + 12345;
+            boolean lie = (z >>> 18) % 2 == 1;
+            DUE.is("23 f of the law", x.drawn(seed, 101, 1), 72 - (lie ? (z >>> 12) % 10 : 0));
         }
     }
 

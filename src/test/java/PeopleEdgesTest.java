@@ -288,6 +288,24 @@ public final class PeopleEdgesTest {
         DUE.is("4 a tooth without people", x.mend(0, 0, 1), -1);
         DUE.is("4 caps without people", x.mend(0, 8, 1), -1);
         DUE.is("4 the facts beside it", x.of(8, 9) + x.of(0, 9), 0);
+        promise4EachFactAlone();
+    }
+
+    private static void promise4EachFactAlone() {
+        for (int mended = 0; mended < 10; mended++) {
+            for (int v = 0; v <= 1; v++) {
+                SkinOfTeeth x = new SkinOfTeeth();
+                for (int fact = 0; fact < 10; fact++) {
+                    x.mend(fact, 9, 1 - v);
+                }
+                x.mend(mended, 9, v);
+                for (int fact = 0; fact < 10; fact++) {
+                    DUE.is("4 fact " + fact + " by " + mended, x.of(fact, 9), fact == mended ? v : 1 - v);
+                }
+                x.undo();
+                DUE.is("4 fact " + mended + " undone", x.of(mended, 9), 1 - v);
+            }
+        }
     }
 
     private static void promise4NoSuchNumber() {

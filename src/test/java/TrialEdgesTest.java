@@ -259,6 +259,13 @@ public final class TrialEdgesTest {
         DUE.is("11 one who is gone ahead of it all", x.gone(0), 3);
         x.put(0, 12, 1);
         DUE.is("11 none", x.gone(0), -2);
+        for (int shelf = 0; shelf < 6; shelf++) {
+            Due.bytes(x, shelf, 0, 0, 0, 0, shelf < 3 ? 0 : 2, 0, 0, 0, shelf % 3 == 1 ? 1 : 0, 0, shelf % 3 == 0 ? 0 : 1, 0);
+        }
+        int[] due = {-2, 2, 2, 1, 1, 1};
+        for (int shelf = 0; shelf < 6; shelf++) {
+            DUE.is("11 shelf " + shelf, x.gone(shelf), due[shelf]);
+        }
     }
 
     private static void promise12Arguments() {
