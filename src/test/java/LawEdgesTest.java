@@ -24,6 +24,7 @@ public final class LawEdgesTest {
         lines();
         names();
         whatAFaultLeaves();
+        oneLawAfterAnother();
         DUE.end();
     }
 
@@ -417,5 +418,25 @@ public final class LawEdgesTest {
         DUE.is("7 a fault", Due.law(x, "zz"), -101);
         DUE.is("7 by its second line", x.takes(0, 0), 4);
         DUE.is("7 laws are no changes", x.count(3), 0);
+    }
+
+    /** Nothing of a law, nor of a text with a fault, is left in those that come after it, short or long. */
+    private static void oneLawAfterAnother() {
+        String[] texts = {"5", "z", "6", "z<5?1;f", "7", "(((8)))", "0?1;0?2", "!0*9", "1+1+1+1", "3", "0;5", "z?2;4"};
+        int[] due = {5, 9, 6, 2, 7, 8, 0, 9, 4, 3, 0, 2};
+        String[] faults = {"", "1;", "1?", "9)", "z+z+z+z+z+z+(", "1?2;3?4;5?6?"};
+        for (int step = 1; step < texts.length; step++) {
+            for (int faulty = 0; faulty <= faults.length; faulty++) {
+                SkinOfTeeth x = new SkinOfTeeth();
+                x.person(9);
+                for (int i = 0, n = 0; i < texts.length; i++, n = (n + step) % texts.length) {
+                    DUE.is("7 the law " + texts[n], Due.law(x, texts[n]), 1);
+                    if (faulty < faults.length) {
+                        DUE.is("7 a fault " + faults[faulty], Due.law(x, faults[faulty]) < -99 ? 1 : 0, 1);
+                    }
+                    DUE.is("7 by the law " + texts[n], x.takes(0, 29), due[n]);
+                }
+            }
+        }
     }
 }

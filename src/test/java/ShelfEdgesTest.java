@@ -138,13 +138,15 @@ public final class ShelfEdgesTest {
                 }
             }
         }
-        SkinOfTeeth x = new SkinOfTeeth();
-        for (int i = 0; i < 50; i++) {
-            x.body(i * 3 % 8);
-        }
-        for (int i = 0; i < 50; i++) {
-            for (int act = 0; act < 4; act++) {
-                DUE.is("34 by its number " + i, x.act(i, act, 77), due(i * 3 % 8, act, i, 77));
+        for (int first = 0; first < 8; first++) {
+            SkinOfTeeth x = new SkinOfTeeth();
+            for (int i = 0; i < 50; i++) {
+                x.body((first + i * 3) % 8);
+            }
+            for (int i = 0; i < 50; i++) {
+                for (int act = 0; act < 4; act++) {
+                    DUE.is("34 by its number " + i, x.act(i, act, 77), due((first + i * 3) % 8, act, i, 77));
+                }
             }
         }
     }
